@@ -660,7 +660,7 @@ public final class GorgeDay {
             if (!isRight() || kind == END) {
                 return false;
             }
-            if (line > 0 && !takeSign(';') || line >= LINES) {
+            if ((line > 0 && !takeSign(';')) || line >= LINES) {
                 fail();
             }
             return isRight();
@@ -1119,11 +1119,15 @@ public final class GorgeDay {
             turbine = other.turbine;
             // A RULE never changes once it is made, so both may hold the same one.
             ruleCount = other.ruleCount;
-            System.arraycopy(other.rules, 0, rules, 0, RULES);
+            for (int i = 0; i < RULES; i++) {
+                rules[i] = other.rules[i];
+            }
             logs = other.logs;
             copyRow(other.logPlace, logPlace);
             copyRow(other.logQuarter, logQuarter);
-            System.arraycopy(other.logWet, 0, logWet, 0, LOGS);
+            for (int i = 0; i < LOGS; i++) {
+                logWet[i] = other.logWet[i];
+            }
         }
 
         void addLog(int place, int quarter, boolean wasWet) {
@@ -1484,7 +1488,7 @@ public final class GorgeDay {
         void tryGate(Day day, int gate) {
             Arrays.fill(judgedSo, 0);
             best = NONE;
-            int leastHarm = Integer.MAX_VALUE;
+            int leastHarm = 0;
             for (int s = 1; s <= day.gorge.steps[gate]; s++) {
                 Arrays.fill(steps, 0);
                 flood.runFrom(day.gorge, steps, 0, 0);
@@ -1493,9 +1497,8 @@ public final class GorgeDay {
                     flood.runFrom(day.gorge, steps, q, 0);
                     int judged = day.judged(flood, danger);
                     judgedSo[judged]++;
-                    int harm = judged == 0 ? flood.harmDone(day.gorge) : leastHarm;
-                    if (harm < leastHarm) {
-                        leastHarm = harm;
+                    if (judged == 0 && (best == NONE || flood.harmDone(day.gorge) < leastHarm)) {
+                        leastHarm = flood.harmDone(day.gorge);
                         best = 100 * s + q;
                     }
                 }

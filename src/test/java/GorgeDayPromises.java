@@ -146,6 +146,13 @@ public final class GorgeDayPromises {
         due("level", x.level(0, 0), 0);
         due("judge", x.judge(0), 0);
         due("calls", x.calls(), 0);
+        tape(x, "into 3 3 7;into 95 95 1").gorge();
+        due("AREA 1", x.level(0, 3), 7);
+        due("above GOAL 0", x.judge(0), 1);
+        tape(x, "into 3 3 0").gorge();
+        due("above GOAL 0 in QUARTER 95 alone", x.judge(0), 1);
+        tape(x, "into 95 95 0").gorge();
+        due("not above it", x.judge(0), 0);
     }
 
     private static void feedAndEnd() {
@@ -247,6 +254,9 @@ public final class GorgeDayPromises {
         wrongGorge(x, "gate 1;;gate 2", 7);
         wrongGorge(x, "gate1gate2", 5);
         wrongGorge(x, "gategate 1", 0);
+        wrongGorge(x, "bate 1", 0);
+        wrongGorge(x, "gats 1", 0);
+        wrongGorge(x, "gat 1", 0);
         wrongGorge(x, "12", 0);
         wrongGorge(x, "gate 1\377", 6);
         wrongGorge(x, "gate 1\t2", 6);
@@ -499,6 +509,10 @@ public final class GorgeDayPromises {
         low.step(0, 0, 0, 95, 1);
         due("no level at first: nothing is let go", low.flow(0, 50, false), 0);
         due("it stays", low.water(0, -1, 95), 509);
+        GorgeDay least = with("lake 1 1 0 95;gate 100");
+        least.open();
+        least.step(0, 0, 9, 95, 1);
+        due("level 1 at first", least.flow(0, 9, false), 1);
         GorgeDay great = with("lake 1 999999 0 95;gate 9999;into 0 95 9999");
         great.open();
         due("the greatest lake", great.water(0, -1, 95), 999999 + 96 * 9999);
@@ -546,6 +560,12 @@ public final class GorgeDayPromises {
         due("of wet ones alone", x.harm(0), 112);
         x.open();
         due("none", x.harm(1), 0);
+        GorgeDay early = with("reach 1 100 100 0 9;place 0 1 0 3;rain 0 0 1");
+        early.open();
+        due("wet in quarter 0 alone", early.harm(0), 3);
+        GorgeDay late = with("reach 1 100 100 0 9;place 0 1 0 3;rain 95 95 1");
+        late.open();
+        due("wet in quarter 95 alone", late.harm(0), 3);
         thrown("harm", INDEX, () -> x.harm(2));
         promise = 20;
         due("down", x.down(0), 6);
@@ -557,6 +577,9 @@ public final class GorgeDayPromises {
         due("below 0", x.latest(0, 0), -1);
         due("latest", x.latest(0, 1), 1);
         due("never", x.latest(0, 2), 99);
+        GorgeDay last = with("reach 1 100 100 0 9;place 0 1 12 3;rain 95 95 1");
+        last.open();
+        due("wet in quarter 95 alone", last.latest(0, 0), 83);
         thrown("latest", INDEX, () -> x.latest(2, 0));
         thrown("latest", INDEX, () -> x.latest(0, 4));
     }
@@ -706,6 +729,19 @@ public final class GorgeDayPromises {
         tape(x, "lake 10 1000 59 4").gorge();
         due("level 59 in quarter 4", x.judge(0), 0);
         thrown("judge", INDEX, () -> x.judge(1));
+        GorgeDay slight = valley();
+        slight.person(1, 0, 9, 99, 0, 99);
+        for (int i = 0; i < 4; i++) {
+            slight.call(1, 1);
+        }
+        due("a hundred-millionth", slight.fear(0), 1);
+        due("is more than the bound at first", slight.judge(0), 2);
+        GorgeDay deep = with("lake 1 1000 1 95;gate 999 1000;reach 1 100 100 0 0");
+        deep.open();
+        deep.step(0, 0, 0, 0, 1);
+        due("a fall of 999 is borne at first", deep.judge(0), 0);
+        deep.step(0, 0, 0, 0, 2);
+        due("one of 1000 is not", deep.judge(0), 3);
     }
 
     private static void bestOpening() {
@@ -827,6 +863,9 @@ public final class GorgeDayPromises {
         x.open();
         x.step(1, 0, 0, 95, 3);
         due("open from quarter 0 on", x.warns(1, 0), -1);
+        x.step(1, 0, 0, 0, 1);
+        x.step(1, 0, 1, 9, 0);
+        due("open in quarter 0 already", x.warns(1, 0), -1);
         thrown("warns", INDEX, () -> x.warns(2, 0));
         thrown("warns", INDEX, () -> x.warns(0, 1));
     }
@@ -871,6 +910,26 @@ public final class GorgeDayPromises {
         due("closed all day", x.closing(0, 0, 0), 1);
         x.step(0, 0, 0, 10, 0);
         due("0 ahead of it", x.closing(0, 0, 5), 1);
+        GorgeDay y = with("lake 1 999999 0 95;gate 100 200 300 400 500 600;reach 1 10 10 0 0;into 0 95 600");
+        y.open();
+        y.step(0, 0, 0, 95, 6);
+        y.open();
+        int slowest = 0;
+        boolean none = false;
+        for (int bound = 300; bound >= 100; bound--) {
+            y.bounds(0, bound, 0);
+            int least = -1;
+            for (int each = 12; each >= 1; each--) {
+                y.step(1, 0, 0, 95, 6);
+                y.slow(1, 0, 25, 0, each);
+                least = y.most(1, 0, true, false) <= bound ? each : least;
+            }
+            due("closing by a fall of " + bound, y.closing(0, 0, 25), least);
+            slowest = Math.max(slowest, least);
+            none |= least == -1;
+        }
+        due("the slowest was needed", slowest, 12);
+        due("and was not slow enough", none, true);
         thrown("closing", INDEX, () -> x.closing(1, 0, 0));
         thrown("closing", INDEX, () -> x.closing(0, 1, 0));
         thrown("closing", INDEX, () -> x.closing(0, 0, 96));
@@ -901,6 +960,9 @@ public final class GorgeDayPromises {
         promise = 38;
         GorgeDay x = with("gate 10 20;price 3 3 5;price 6 7 4;price 94 95 7");
         x.turbine(15);
+        GorgeDay first = with("gate 1;price 0 0 9");
+        first.turbine(1);
+        due("the price of quarter 0", first.hours(0, 1, 0, 2, 2, false), 9);
         due("FLOW as it is, the dearest", x.hours(0, 1, 0, 1, 1, false), 70);
         due("the least quarter", x.hours(0, 1, 0, 1, 1, true), 94);
         due("TURBINE at most", x.hours(0, 2, 0, 1, 1, false), 105);
@@ -1051,6 +1113,10 @@ public final class GorgeDayPromises {
         }
         x.person(1, 0, 95, 0, 0, 1);
         due("never", x.near(0, from.length), 99);
+        GorgeDay early = with("reach 1 100 100 0 9;place 0 1 0 3;rain 0 0 1");
+        early.open();
+        early.person(0, 4, 9, 0, 0, 1);
+        due("wet in quarter 0 alone", early.near(0, 0), 4);
         thrown("near", INDEX, () -> x.near(1, 0));
         thrown("near", INDEX, () -> x.near(0, 9));
     }
@@ -1085,6 +1151,17 @@ public final class GorgeDayPromises {
         }
         // By SEED 0 the first draw is of 12345: bits 16 to 30 are 0.
         due("play by hand", x.play(0, 0) & 2, 0);
+        for (int seed = 0; seed < 300; seed++) {
+            int draw = (seed * 1103515245 + 12345 >>> 16 & 0x7fff) % 100;
+            GorgeDay y = valley();
+            y.person(1, 0, 9, draw, 0, 99);
+            y.call(1, 1);
+            due("HEARS is no more than the draw", y.play(0, seed), 1);
+            GorgeDay z = valley();
+            z.person(1, 0, 9, draw + 1, 0, 99);
+            z.call(1, 1);
+            due("HEARS is more than the draw", z.play(0, seed), 0);
+        }
         x.open();
         due("no water", x.play(1, 9), 0);
         thrown("play", INDEX, () -> x.play(2, 0));
