@@ -232,6 +232,8 @@ final class Edges {
         rightGorge(ahead + most + behind);
         wrongGorge(ahead + (least - 1) + behind, ahead.length());
         wrongGorge(ahead + (most + 1) + behind, ahead.length());
+        wrongGorge(ahead + sevenDigits(least) + behind, ahead.length());
+        wrongGorge(ahead + sevenDigits(most) + behind, ahead.length());
     }
 
     static void numberOfRule(String ahead, String behind, int least, int most) {
@@ -239,5 +241,11 @@ final class Edges {
         rightRule(ahead + most + behind);
         wrongRule(ahead + (least - 1) + behind, ahead.length());
         wrongRule(ahead + (most + 1) + behind, ahead.length());
+        wrongRule(ahead + sevenDigits(least) + behind, ahead.length());
+        wrongRule(ahead + sevenDigits(most) + behind, ahead.length());
+    }
+
+    private static String sevenDigits(int n) {
+        return String.format("%07d", n);
     }
 }

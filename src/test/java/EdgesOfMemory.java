@@ -30,7 +30,9 @@ final class EdgesOfMemory {
     }
 
     private static void roomForLog() {
-        Edges.edge(41, "LOG (at most 16): a PLACE in a QUARTER was WET, or not.", "LOG: how many there are. UnsupportedOperationException: there are 16.");
+        Edges.edge(41,
+                "LOG (at most 16): a PLACE in a QUARTER was WET, or not.",
+                "LOG: how many there are. UnsupportedOperationException: there are 16.");
         GorgeDay x = wetIn(20);
         for (int i = 1; i <= 16; i++) {
             Edges.due("log " + i, x.log(0, 20, true), i);
@@ -63,7 +65,9 @@ final class EdgesOfMemory {
     }
 
     private static void likest() {
-        Edges.edge(43, "LIKEST: the OPENING by which most are, of several the least number; none without OPENINGS.", "LIKEST; NONE.");
+        Edges.edge(43,
+                "LIKEST: the OPENING by which most are, of several the least number; none without OPENINGS.",
+                "LIKEST; NONE.");
         Edges.due("without OPENINGS", new GorgeDay().likest(), Edges.NONE);
         GorgeDay logged = Edges.gorge("reach 1 0 0 0 0;place 0 0 0 0");
         logged.log(0, 0, false);
@@ -92,7 +96,9 @@ final class EdgesOfMemory {
     }
 
     private static void near() {
-        Edges.edge(44, "the least between a QUARTER FROM to TILL and one in which the PLACE is WET (0: there); none.", "NEAR; 99 without.");
+        Edges.edge(44,
+                "the least between a QUARTER FROM to TILL and one in which the PLACE is WET (0: there); none.",
+                "NEAR; 99 without.");
         GorgeDay x = wetIn(20, 40);
         nearDue(x, 0, 19, 1);
         nearDue(x, 0, 20, 0);
@@ -172,7 +178,10 @@ final class EdgesOfMemory {
     }
 
     private static void whoDraws() {
-        Edges.edge(45, "PEOPLE by numbers who would be CAUGHT, and do not go: for each CALL IN TIME, as they were told, a DRAW (also behind one that was heard)", "Who hears none stands in it: as bits.");
+        Edges.edge(45,
+                "PEOPLE by numbers who would be CAUGHT, and do not go: for each CALL IN TIME, as they were "
+                        + "told, a DRAW (also behind one that was heard)",
+                "Who hears none stands in it: as bits.");
         GorgeDay x = wetIn(20);
         x.person(0, 20, 30, 100, 0, 99);
         x.person(0, 0, 19, 100, 0, 99);
@@ -210,7 +219,9 @@ final class EdgesOfMemory {
     // ---- THE IMAGE
 
     private static void imageOfAll() {
-        Edges.edge(46, "THE IMAGE (one) of all may be kept, and gone back to (but for the TAPE, fault() and THE IMAGE itself).");
+        Edges.edge(46,
+                "THE IMAGE (one) of all may be kept, and gone back to (but for the TAPE, fault() and THE "
+                        + "IMAGE itself).");
         Edges.unchanged("kept again", Village::new, x -> {
             x.back();
             x.step(1, 1, 60, 60, 1);
@@ -302,7 +313,9 @@ final class EdgesOfMemory {
     }
 
     private static void counts() {
-        Edges.edge(48, "0 texts of THE GORGE, 1 GATES, 2 REACHES, 3 PLACES, 4 OPENINGS, 5 PEOPLE, 6 CALLS, 7 RULES, 8 LOG, 9 LEVEL at first, 10 INFLOW of all QUARTERS, 11 TURBINE.");
+        Edges.edge(48,
+                "0 texts of THE GORGE, 1 GATES, 2 REACHES, 3 PLACES, 4 OPENINGS, 5 PEOPLE, 6 CALLS, 7 RULES, "
+                        + "8 LOG, 9 LEVEL at first, 10 INFLOW of all QUARTERS, 11 TURBINE.");
         GorgeDay x = full();
         int[] most = {12, 4, 8, 12, 6, 10, 24, 4, 16, 999999, 96 * 9999, 9999};
         for (int what = 0; what < most.length; what++) {

@@ -12,6 +12,7 @@ final class EdgesOfOpenings {
         slowly();
         waves();
         asTold();
+        waterAfterMoves();
     }
 
     /** The STEPS of a GATE from a QUARTER on must be these. */
@@ -22,7 +23,9 @@ final class EdgesOfOpenings {
     }
 
     private static void room() {
-        Edges.edge(7, "OPENINGS (at most 6, numbered from 0 on)", "An OPENING: its number. UnsupportedOperationException: there are 6.");
+        Edges.edge(7,
+                "OPENINGS (at most 6, numbered from 0 on)",
+                "An OPENING: its number. UnsupportedOperationException: there are 6.");
         GorgeDay x = Edges.gorge("gate 1");
         for (int i = 0; i < 6; i++) {
             Edges.due("OPENING " + i, x.open(), i);
@@ -160,7 +163,9 @@ final class EdgesOfOpenings {
     }
 
     private static void waves() {
-        Edges.edge(11, "From a QUARTER on n for so many QUARTERS, then 0 for so many (as far as there are; behind that all as it was).");
+        Edges.edge(11,
+                "From a QUARTER on n for so many QUARTERS, then 0 for so many (as far as there are; behind "
+                        + "that all as it was).");
         GorgeDay x = Edges.opened("gate 1 2 3 4 5 6;gate 1");
         x.step(0, 0, 0, 95, 1);
         x.pulse(0, 0, 10, 6, 1, 0);
@@ -187,6 +192,30 @@ final class EdgesOfOpenings {
         x.pulse(0, 0, 0, 3, 1, 94);
         stepsDue(x, 0, 0, 3, 0);
         stepsDue(x, 0, 94, 0, 1);
+    }
+
+    private static void waterAfterMoves() {
+        Edges.edge(13, "in a QUARTER: of a REACH, or (NONE) of the lake.", "of each GATE in each QUARTER a STEP");
+        GorgeDay x = Edges.opened("lake 1 1000 0 0;gate 10 20");
+        Edges.due("shut", x.water(0, -1, 0), 1000);
+        x.step(0, 0, 0, 0, 1);
+        Edges.due("behind a STEP", x.water(0, -1, 0), 990);
+        x.slow(0, 0, 0, 0, 1);
+        Edges.due("behind a slow way", x.water(0, -1, 0), 1000);
+        x.pulse(0, 0, 0, 2, 1, 0);
+        Edges.due("behind a wave", x.water(0, -1, 0), 980);
+        x.image();
+        x.step(0, 0, 0, 0, 1);
+        Edges.due("behind another STEP", x.water(0, -1, 0), 990);
+        x.back();
+        Edges.due("back again", x.water(0, -1, 0), 980);
+        Edges.tape(x, "lake 1 500 0 0").gorge();
+        Edges.due("behind a text", x.water(0, -1, 0), 480);
+        x.copy(0);
+        x.open();
+        Edges.due("of a copy", x.water(1, -1, 0), 480);
+        Edges.due("of a new one", x.water(2, -1, 0), 500);
+        Edges.due("of the first", x.water(0, -1, 0), 480);
     }
 
     private static void asTold() {

@@ -1,3 +1,6 @@
+import java.util.ArrayList;
+import java.util.List;
+
 /** Promises 22 to 29 and 31, 32: PEOPLE, who calls them, what they fear, and how an OPENING is JUDGED. */
 final class EdgesOfPeople {
     private static final long WHOLE = 100000000;
@@ -23,6 +26,7 @@ final class EdgesOfPeople {
         wardenGoes();
         wardenCalls();
         wardenOrders();
+        wardenFindsOrders();
     }
 
     /** PLACE 0 (DRY 8, OFF as told) is WET in these QUARTERS alone; its REACH is 9 deep then. */
@@ -83,7 +87,9 @@ final class EdgesOfPeople {
     }
 
     private static void caught() {
-        Edges.edge(25, "CAUGHT: the first QUARTER behind FROM, and not behind TILL, in which the PLACE is WET; none, if there is none, or it is WET in QUARTER FROM.");
+        Edges.edge(25,
+                "CAUGHT: the first QUARTER behind FROM, and not behind TILL, in which the PLACE is WET; "
+                        + "none, if there is none, or it is WET in QUARTER FROM.");
         GorgeDay x = wetIn(0, 20, 22);
         caughtDue(x, 0, 19, Edges.NONE);
         caughtDue(x, 0, 20, 20);
@@ -165,7 +171,9 @@ final class EdgesOfPeople {
     }
 
     private static void seesTheWater() {
-        Edges.edge(26, "One goes, if there is a QUARTER IN TIME in which RISE of the REACH is SEES at least; else each CALL IN TIME is heard by HEARS.");
+        Edges.edge(26,
+                "One goes, if there is a QUARTER IN TIME in which RISE of the REACH is SEES at least; else "
+                        + "each CALL IN TIME is heard by HEARS.");
         goesDue(10, 0, 0, 8, true);
         goesDue(10, 0, 0, 9, true);
         goesDue(10, 0, 0, 10, false);
@@ -205,7 +213,9 @@ final class EdgesOfPeople {
     }
 
     private static void odds() {
-        Edges.edge(26, "ODDS of one who would be CAUGHT: 100 less HEARS, by 100, once for each CALL IN TIME, in hundred-millionths; 0 of others, and of one who goes.");
+        Edges.edge(26,
+                "ODDS of one who would be CAUGHT: 100 less HEARS, by 100, once for each CALL IN TIME, in "
+                        + "hundred-millionths; 0 of others, and of one who goes.");
         oddsDue(0, 0, WHOLE);
         oddsDue(0, 4, WHOLE);
         oddsDue(100, 0, WHOLE);
@@ -304,6 +314,8 @@ final class EdgesOfPeople {
         GorgeDay second = Edges.opened(Edges.times("reach 1 0 0 0 0", 7) + ";reach 1 100 100 0 9;rain 5 5 1");
         second.bounds(0, 8, 99999);
         Edges.due("FALL of the 8th REACH alone", second.judge(0), 3);
+        second.bounds(0, 9, 99999);
+        Edges.due("FALL of none of eight", second.judge(0), 0);
         GorgeDay deep = Edges.opened("lake 1 1000 1 95;gate 999 1000;reach 1 100 100 0 0");
         deep.step(0, 0, 0, 0, 1);
         Edges.due("FALL 999 at first", deep.judge(0), 0);
@@ -355,7 +367,9 @@ final class EdgesOfPeople {
     // ---- whom to call
 
     private static void whom() {
-        Edges.edge(31, "WHOM to call in a QUARTER: the PLACE (that has fewer than 4 CALLS) by whose CALL then FEAR would be the least, of several the least number; none, if FEAR would not be less.");
+        Edges.edge(31,
+                "WHOM to call in a QUARTER: the PLACE (that has fewer than 4 CALLS) by whose CALL then FEAR "
+                        + "would be the least, of several the least number; none, if FEAR would not be less.");
         GorgeDay x = wetIn(2, 20);
         Edges.due("without PEOPLE", x.whom(0, 0), Edges.NONE);
         x.person(0, 5, 30, 1, 7, 99);
@@ -392,6 +406,11 @@ final class EdgesOfPeople {
         heard.call(0, 0);
         Edges.due("FEAR is 0 already", heard.whom(0, 0), Edges.NONE);
         Edges.due("without PLACES", Edges.opened("reach 1 0 0 0 0").whom(0, 95), Edges.NONE);
+        GorgeDay ten = wetIn(0, 20);
+        for (int i = 0; i < 10; i++) {
+            ten.person(0, 0, 30, 0, 0, 99);
+        }
+        Edges.due("ten who hear nothing", ten.whom(0, 0), Edges.NONE);
     }
 
     // ---- a WARDEN
@@ -407,7 +426,9 @@ final class EdgesOfPeople {
     }
 
     private static void wardenGoes() {
-        Edges.edge(32, "A WARDEN goes from a REACH in a QUARTER on, a PACE (0 to 9 QUARTERS) for each REACH that he goes up or down");
+        Edges.edge(32,
+                "A WARDEN goes from a REACH in a QUARTER on, a PACE (0 to 9 QUARTERS) for each REACH that he "
+                        + "goes up or down");
         GorgeDay x = wardens();
         Edges.due("all are CAUGHT", x.fear(0), 8 * WHOLE);
         Edges.due("down by 7 in 63 QUARTERS", x.warden(0, 0, 32, 9, 128, -1), 7 * WHOLE);
@@ -441,10 +462,21 @@ final class EdgesOfPeople {
         Edges.due("no 5th time", y.warden(0, 0, 0, 0, 2, -1), 7 * WHOLE + WHOLE / 16);
         Edges.due("he is told of a way though", y.warden(0, 0, 0, 0, 2, 0), 1);
         Edges.due("no CALL is done", y.count(6), 4);
+        GorgeDay late = wetIn(0, 20);
+        late.person(0, 0, 30, 50, 0, 99);
+        Edges.due("one CALL by him", late.warden(0, 0, 20, 0, 1, -1), WHOLE / 2);
+        for (int calls = 0; calls < 4; calls++) {
+            Edges.due("with " + calls + " that come too late", late.warden(0, 0, 20, 0, 1, -1), WHOLE / 2);
+            late.call(0, 21);
+        }
+        Edges.due("no 5th time, though four came too late", late.warden(0, 0, 20, 0, 1, -1), WHOLE);
     }
 
     private static void wardenOrders() {
-        Edges.edge(32, "(at most 6; of several orders that by which FEAR is the least, of several the first one, by numbers)", "the set has more than 6");
+        Edges.edge(32,
+                "(at most 6; of several orders that by which FEAR is the least, of several the first one, by "
+                        + "numbers)",
+                "the set has more than 6");
         GorgeDay x = wardens();
         Edges.due("six", x.warden(0, 0, 95, 0, 63, -1), 2 * WHOLE);
         Edges.due("the other six", x.warden(0, 0, 95, 0, 255 - 3, -1), 2 * WHOLE);
@@ -481,6 +513,82 @@ final class EdgesOfPeople {
         Edges.due("and no more", x.warden(0, 0, 95, 0, 128 + 256, 1), Edges.NONE);
         Edges.due("12 PLACES: bits from 12 on", twelve().day.warden(0, 0, 0, 0, (-1 << 12) + 2048, 0), 11);
         Edges.due("12 PLACES: and no more", twelve().day.warden(0, 0, 0, 0, (-1 << 12) + 2048, 1), Edges.NONE);
+    }
+
+    /**
+     * PLACE p stands at REACH reaches[p], is called in time from arrives[p] less slack to arrives[p], by QUARTERS from
+     * 20 on, as all are WET in QUARTER 32 and OFF is what is left until then.
+     */
+    private static GorgeDay windows(int[] reaches, int[] arrives, int slack) {
+        GorgeDay x = Edges.opened(Edges.times("reach 1 100 100 0 9", 6), "rain 32 32 1");
+        for (int p = 0; p < reaches.length; p++) {
+            Edges.tape(x, "place " + reaches[p] + " 8 " + (12 - arrives[p]) + " 0").gorge();
+            x.person(p, 0, 95, 100, 20 + Math.max(0, arrives[p] - slack), 99);
+        }
+        return x;
+    }
+
+    /** When one comes to each PLACE by an order, from REACH 0 on by PACE 1. */
+    private static int[] arrivals(int[] reaches, List<Integer> order) {
+        int[] arrives = new int[reaches.length];
+        int at = 0;
+        int quarter = 0;
+        for (int p : order) {
+            quarter += Math.abs(reaches[p] - at);
+            at = reaches[p];
+            arrives[p] = quarter;
+        }
+        return arrives;
+    }
+
+    private static void addOrders(List<Integer> so, int of, List<List<Integer>> orders) {
+        if (so.size() == of) {
+            orders.add(so);
+        }
+        for (int p = 0; p < of; p++) {
+            if (!so.contains(p)) {
+                List<Integer> longer = new ArrayList<>(so);
+                longer.add(p);
+                addOrders(longer, of, orders);
+            }
+        }
+    }
+
+    private static void wardenFindsOrders() {
+        Edges.edge(32, "of several orders that by which FEAR is the least, of several the first one, by numbers");
+        int[][] lines = {{0, 1, 2, 3}, {2, 0, 3, 1}, {1, 1, 3, 0}, {0, 2, 2, 2, 1}};
+        for (int[] reaches : lines) {
+            List<List<Integer>> orders = new ArrayList<>();
+            addOrders(new ArrayList<>(), reaches.length, orders);
+            for (int slack : new int[] {0, 2}) {
+                for (List<Integer> aim : orders) {
+                    orderDue(reaches, orders, aim, slack);
+                }
+            }
+        }
+    }
+
+    private static void orderDue(int[] reaches, List<List<Integer>> orders, List<Integer> aim, int slack) {
+        int[] last = arrivals(reaches, aim);
+        int most = -1;
+        List<Integer> due = aim;
+        for (List<Integer> order : orders) {
+            int[] arrives = arrivals(reaches, order);
+            int called = 0;
+            for (int p = 0; p < reaches.length; p++) {
+                called += arrives[p] <= last[p] && arrives[p] >= last[p] - slack ? 1 : 0;
+            }
+            if (called > most) {
+                most = called;
+                due = order;
+            }
+        }
+        GorgeDay x = windows(reaches, last, slack);
+        int set = (1 << reaches.length) - 1;
+        Edges.due("FEAR by " + due, x.warden(0, 0, 20, 1, set, -1), (reaches.length - most) * WHOLE);
+        for (int k = 0; k < reaches.length; k++) {
+            Edges.due(k + " of " + due, x.warden(0, 0, 20, 1, set, k), due.get(k));
+        }
     }
 
     private static Village twelve() {

@@ -10,6 +10,8 @@ final class EdgesOfPlans {
         bars();
         warns();
         warnsNot();
+        warnsByRain();
+        triedAgain();
         bears();
         closing();
         closingFrom();
@@ -25,7 +27,10 @@ final class EdgesOfPlans {
     }
 
     private static void bestOf() {
-        Edges.edge(30, "at a STEP from a QUARTER on (to the end), that are JUDGED 0: the least HARM, of several the least STEP, then the latest QUARTER: 100 times the STEP and the QUARTER; none.", "BEST (bars false; NONE), or BARS.");
+        Edges.edge(30,
+                "at a STEP from a QUARTER on (to the end), that are JUDGED 0: the least HARM, of several the "
+                        + "least STEP, then the latest QUARTER: 100 times the STEP and the QUARTER; none.",
+                "BEST (bars false; NONE), or BARS.");
         bestDue("BY 0: QUARTER 0", Edges.gorge("lake 10 100 9 0;gate 10"), 100, 0);
         bestDue("BY 95: QUARTER 95", Edges.gorge("lake 10 100 9 95;gate 10"), 195, 0);
         bestDue("BY 40: QUARTER 40", Edges.gorge("lake 10 100 9 40;gate 10"), 140, 0);
@@ -77,6 +82,8 @@ final class EdgesOfPlans {
         bestDue("47 by LEVEL and 49 by HARM", harmful(48), Edges.NONE, 4);
         bestDue("49 by LEVEL and 47 by HARM", harmful(46), Edges.NONE, 1);
         bestDue("95 by LEVEL and 1 by HARM", harmful(0), Edges.NONE, 1);
+        bestDue("of two STEPS 96 by LEVEL and 96 by HARM: those that it has not do not count", harmful(95, "gate 0 10"), Edges.NONE, 1);
+        bestDue("of three STEPS 96 by LEVEL and 192 by HARM", harmful(95, "gate 0 10 10"), Edges.NONE, 4);
         GorgeDay falls = harmful(48);
         falls.bounds(0, 0, 99999);
         bestDue("by FALL", falls, Edges.NONE, 3);
@@ -93,7 +100,11 @@ final class EdgesOfPlans {
 
     /** 10 are let go in each QUARTER that is open, so much that the PLACE is WET; GOAL is met by one QUARTER. */
     private static GorgeDay harmful(int by) {
-        GorgeDay x = Edges.gorge("lake 1 9999 9998 " + by + ";gate 10;reach 1 100 100 0 0;place 0 5 0 7");
+        return harmful(by, "gate 10");
+    }
+
+    private static GorgeDay harmful(int by, String gate) {
+        GorgeDay x = Edges.gorge("lake 1 9999 9998 " + by + ";" + gate + ";reach 1 100 100 0 0;place 0 5 0 7");
         x.bounds(0, 999, 6);
         return x;
     }
@@ -106,7 +117,9 @@ final class EdgesOfPlans {
     }
 
     private static void warns() {
-        Edges.edge(33, "WARNS: of all waves of one QUARTER at a STEP of a GATE, in a QUARTER ahead of the first in which that GATE is open");
+        Edges.edge(33,
+                "WARNS: of all waves of one QUARTER at a STEP of a GATE, in a QUARTER ahead of the first in "
+                        + "which that GATE is open");
         GorgeDay x = waved();
         x.person(0, 0, 40, 0, 0, 30);
         Edges.due("by OFF 2 the wave may come in QUARTER 8", x.warns(0, 0), 108);
@@ -124,7 +137,9 @@ final class EdgesOfPlans {
         Edges.due("QUARTER 0 alone is ahead", one.warns(0, 0), 100);
         Edges.due("the OPENING stays", one.stepAt(0, 0, 0), 0);
 
-        Edges.edge(33, "that by which FEAR is the least, of several the least STEP, then the latest QUARTER: 100 times the STEP and the QUARTER");
+        Edges.edge(33,
+                "that by which FEAR is the least, of several the least STEP, then the latest QUARTER: 100 "
+                        + "times the STEP and the QUARTER");
         GorgeDay y = waved();
         y.person(0, 0, 40, 0, 0, 31);
         Edges.due("one sees 31 and not 30", y.warns(0, 0), 208);
@@ -152,6 +167,8 @@ final class EdgesOfPlans {
         x.step(0, 0, 0, 9, 0);
         x.step(0, 0, 0, 0, 1);
         Edges.due("open in QUARTER 0, then shut", x.warns(0, 0), Edges.NONE);
+        x.person(0, 0, 40, 0, 0, 31);
+        Edges.due("though a wave behind it would warn one", x.warns(0, 0), Edges.NONE);
         GorgeDay y = waved();
         Edges.due("FEAR is 0", y.warns(0, 0), Edges.NONE);
         y.person(0, 5, 40, 0, 9, 99);
@@ -165,10 +182,61 @@ final class EdgesOfPlans {
         Edges.due("another GATE is open, that one never", other.warns(0, 0), Edges.NONE);
         other.step(0, 0, 95, 95, 1);
         Edges.due("that one is open at last", other.warns(0, 0), 108);
+        GorgeDay fourth = Edges.opened("gate 1;gate 1;gate 1;gate 1");
+        Edges.due("GATE 3 is never open", fourth.warns(0, 3), Edges.NONE);
+        fourth.step(0, 3, 95, 95, 1);
+        Edges.due("GATE 3 is open in QUARTER 95", fourth.warns(0, 3), Edges.NONE);
+    }
+
+    private static void warnsByRain() {
+        Edges.edge(33, "of all waves of one QUARTER at a STEP of a GATE");
+        // PLACE 1 has so much OFF that QUARTER 0 alone is in time; one there sees 30, the one at PLACE 0 sees 31.
+        GorgeDay x = Edges.opened("lake 1 1000 0 95;gate 30 40 900;reach 1 100 100 0 0;place 0 50 2 1;place 0 50 10 1");
+        x.step(0, 0, 10, 95, 3);
+        x.person(0, 0, 40, 0, 0, 31);
+        x.person(1, 0, 40, 0, 0, 30);
+        Edges.due("one wave alone: by two of them it would be 208", x.warns(0, 0), 200);
+        // RAIN is as it was told: by 1 more or less the REACH would not rise by 30, or the PLACE would be WET.
+        GorgeDay rain = Edges.opened("lake 1 1000 0 95;gate 30 40 900;reach 1 100 100 0 20;place 0 50 2 1;rain 0 95 1");
+        rain.step(0, 0, 10, 95, 3);
+        rain.person(0, 1, 40, 0, 0, 30);
+        Edges.due("with RAIN", rain.warns(0, 0), 108);
+        GorgeDay dry = Edges.opened("lake 1 1000 0 95;gate 30 40 900;reach 1 100 100 0 60;place 0 50 2 1");
+        dry.step(0, 0, 10, 95, 3);
+        dry.person(0, 1, 40, 0, 0, 30);
+        Edges.due("without RAIN", dry.warns(0, 0), 108);
+        GorgeDay wet = Edges.opened("lake 1 1000 0 95;gate 30 40 900;reach 1 100 100 0 60;place 0 50 2 1;rain 1 1 1");
+        wet.step(0, 0, 10, 95, 3);
+        wet.person(0, 1, 40, 0, 0, 99);
+        Edges.due("WET by RAIN in QUARTER FROM: no FEAR", wet.fear(0), 0);
+        Edges.due("and none warns", wet.warns(0, 0), Edges.NONE);
+        GorgeDay early = Edges.opened("lake 1 1000 0 95;gate 30 40 900;reach 1 100 100 0 60;place 0 50 2 1;rain 3 3 1");
+        early.step(0, 0, 10, 95, 3);
+        early.person(0, 0, 40, 0, 0, 99);
+        Edges.due("WET by RAIN too early to be warned: it must be WET in QUARTER FROM", early.warns(0, 0), 300);
+    }
+
+    private static void triedAgain() {
+        Edges.edge(30, "0, if some is JUDGED 0.");
+        GorgeDay x = Edges.gorge("lake 10 100 9 95;gate 10");
+        bestDue("GOAL 9", x, 195, 0);
+        Edges.tape(x, "lake 10 100 0 0").gorge();
+        bestDue("then GOAL 0", x, Edges.NONE, 1);
+        Edges.tape(x, "lake 10 100 9 0").gorge();
+        bestDue("then GOAL 9 again", x, 100, 0);
+        // RAIN is as it was told in the QUARTERS ahead, too.
+        GorgeDay dry = Edges.gorge("lake 10 100 9 95;gate 10;reach 1 100 100 0 99;place 0 10 0 7");
+        dry.bounds(0, 999, 6);
+        bestDue("without RAIN", dry, 195, 0);
+        Edges.tape(dry, "rain 0 0 1").gorge();
+        bestDue("with RAIN in QUARTER 0 alone", dry, Edges.NONE, 4);
     }
 
     private static void bears() {
-        Edges.edge(34, "BEARS: the greatest number 0 to 9 of RAIN more in each QUARTER by which an OPENING is JUDGED 0; none.", "BEARS; NONE.");
+        Edges.edge(34,
+                "BEARS: the greatest number 0 to 9 of RAIN more in each QUARTER by which an OPENING is "
+                        + "JUDGED 0; none.",
+                "BEARS; NONE.");
         // 96 for each of RAIN; the PLACE bears as many times 96 as it is dry.
         for (int bears = 0; bears <= 9; bears++) {
             GorgeDay x = Edges.opened("reach 1 0 0 0 1;place 0 " + 96 * bears + " 0 5");
@@ -203,7 +271,9 @@ final class EdgesOfPlans {
     }
 
     private static void closing() {
-        Edges.edge(35, "down to 0: the least such number (1 to 12) by which no FALL is above the bound; none.", "CLOSING; NONE.");
+        Edges.edge(35,
+                "down to 0: the least such number (1 to 12) by which no FALL is above the bound; none.",
+                "CLOSING; NONE.");
         // A STEP less lets 10 less go, and nothing stays in the REACH: it falls by 10, however slowly.
         GorgeDay x = closed("gate 10 20 30 40 50 60", 100);
         x.bounds(0, 10, 0);
@@ -251,6 +321,13 @@ final class EdgesOfPlans {
         ahead.step(0, 0, 10, 10, 0);
         ahead.bounds(0, 10, 0);
         Edges.due("a FALL that lies ahead is above the bound", ahead.closing(0, 0, 50), Edges.NONE);
+        // The REACH keeps all until it is 20 deep: that it is by RAIN alone, and never without.
+        GorgeDay dry = Edges.opened("lake 1 10 0 0;gate 10;reach 1 0 100 20 1");
+        dry.bounds(0, 0, 0);
+        dry.step(0, 0, 0, 0, 1);
+        Edges.due("without RAIN nothing goes", dry.closing(0, 0, 5), 1);
+        Edges.tape(dry, "rain 0 95 1").gorge();
+        Edges.due("by RAIN it does", dry.closing(0, 0, 5), Edges.NONE);
         GorgeDay none = Edges.opened("lake 1 5 0 0;gate 5");
         none.bounds(0, 0, 0);
         none.step(0, 0, 0, 95, 1);
@@ -354,7 +431,9 @@ final class EdgesOfPlans {
     }
 
     private static void firstHour() {
-        Edges.edge(38, "FIRST: the least QUARTER with which a plan of so much begins; none without QUARTERS.", "HOURS (first false), or FIRST; NONE.");
+        Edges.edge(38,
+                "FIRST: the least QUARTER with which a plan of so much begins; none without QUARTERS.",
+                "HOURS (first false), or FIRST; NONE.");
         GorgeDay x = Edges.gorge("gate 10;price 10 10 9;price 20 20 9;price 95 95 9");
         x.turbine(10);
         Edges.due("of three the least", x.hours(0, 1, 0, 1, 1, true), 10);

@@ -77,6 +77,8 @@ final class EdgesOfRules {
         holdsDue(x, "not wet 0", 0, true);
         holdsDue(x, "gate 0>0", 0, false);
         holdsDue(x, "gate 0<1", 0, true);
+        holdsDue(x, "gate 0+1>0", 0, true);
+        holdsDue(x, "depth 0+1>0", 0, true);
         holdsDue(x, "quarter>0", 0, false);
         holdsDue(x, "quarter<1", 0, true);
         holdsDue(x, "rain>3", 0, true);
@@ -110,6 +112,9 @@ final class EdgesOfRules {
         GorgeDay wets = Edges.gorge("gate 1;reach 1 100 100 0 9;rain 5 5 1;place 0 8 0 0;place 0 9 0 0");
         holdsDue(wets, "wet 0", 5, false);
         holdsDue(wets, "wet 0", 6, true);
+        holdsDue(wets, "not wet 0", 6, false);
+        holdsDue(wets, "not wet 0", 7, true);
+        holdsDue(wets, "wet 0 and 0<1", 6, true);
         holdsDue(wets, "wet 0", 7, false);
         holdsDue(wets, "wet 1", 6, false);
         GorgeDay two = Edges.gorge("gate 1;gate 1");
@@ -124,6 +129,7 @@ final class EdgesOfRules {
         holdsDue(x, "depth 1>0", 9, false);
         holdsDue(x, "depth 7>0", 9, false);
         holdsDue(x, "depth 7<1", 9, true);
+        holdsDue(x, "depth 7+1>0 and gate 3+1>0", 9, true);
         holdsDue(x, "wet 0", 9, true);
         holdsDue(x, "wet 1", 9, false);
         holdsDue(x, "wet 11", 9, false);
@@ -142,15 +148,31 @@ final class EdgesOfRules {
         holdsDue(eight, "depth 7>0", 1, true);
         holdsDue(eight, "depth 6>0", 1, false);
         holdsDue(eight, "wet 11", 1, true);
+        GorgeDay gone = Edges.gorge("lake 1 1000 0 0;gate 9;rain 0 95 9;reach 1 0 0 0 0");
+        gone.image();
+        Edges.tape(gone, "reach 1 0 0 0 9;place 1 0 0 0;gate 9").gorge();
+        Edges.due("a REACH and a PLACE that are there", holdsFor(gone, "depth 1>0 and wet 0"), true);
+        gone.best(1, false);
+        gone.back();
+        Edges.due("the REACH is there no more", holdsFor(gone, "depth 1>0"), false);
+        Edges.due("nor is the PLACE", holdsFor(gone, "wet 0"), false);
+        int shut = followed(gone, "shut 0");
+        Edges.tape(gone, "gate 9").gorge();
+        Edges.due("the GATE was tried, and is there again", gone.stepAt(shut, 1, 95), 0);
         GorgeDay four = Edges.gorge("gate 1;gate 1;gate 1;gate 1");
         stepsDue(four, followed(four, "open 3 6;open 0 1 if gate 3>5"), 0, 0, 0, 1);
+    }
+
+    /** Whether a condition holds in QUARTER 9; the OPENING stays, and no image is kept. */
+    private static boolean holdsFor(GorgeDay x, String condition) {
+        return x.stepAt(followed(x, "open 0 1 if " + condition + ";shut 0"), 0, 9) == 1;
     }
 
     private static void comparisons() {
         Edges.edge(39, "SUM < SUM | SUM > SUM", "SUM: PART { + PART }");
         GorgeDay x = Edges.gorge("gate 1");
-        String[] right = {"1<2", "2>1", "0<1", "1+1<3", "3>1+1", "2+2<2+3", "2+3>2+2", "999999+1>999999"};
-        String[] not = {"1<1", "1>1", "2<1", "1>2", "1+1<2", "2>1+1", "2+2<2+2", "2+2>2+2", "999999+1<999999"};
+        String[] right = {"not 1<1", "not 1>1", "2>1 and 1<2", "1<2", "2>1", "0<1", "1+1<3", "3>1+1", "2+2<2+3", "2+3>2+2", "999999+1>999999"};
+        String[] not = {"not 1<2", "not 2>1", "not 0<1 and 0<1", "1<1", "1>1", "2<1", "1>2", "1+1<2", "2>1+1", "2+2<2+2", "2+2>2+2", "999999+1<999999"};
         for (String condition : right) {
             holdsDue(x, condition, 0, true);
         }

@@ -23,6 +23,7 @@ final class EdgesOfTexts {
         numbersOfRule();
         depthOfRule();
         grammarOfRule();
+        likewiseOfRules();
         faults();
     }
 
@@ -132,7 +133,9 @@ final class EdgesOfTexts {
     // ---- THE GORGE
 
     private static void roomForTexts() {
-        Edges.edge(4, "THE GORGE is told in texts (at most 12, one behind another)", "UnsupportedOperationException: there are 12.");
+        Edges.edge(4,
+                "THE GORGE is told in texts (at most 12, one behind another)",
+                "UnsupportedOperationException: there are 12.");
         GorgeDay x = new GorgeDay();
         for (int i = 1; i <= 12; i++) {
             Edges.due("text " + i, Edges.tape(x, i == 12 ? "gate 12" : "").gorge(), i);
@@ -195,13 +198,22 @@ final class EdgesOfTexts {
     }
 
     private static void wordsAndBlanks() {
-        Edges.edge(4, "Words are as long as a to z go on; between all there may be blanks (32), also ahead and behind.");
+        Edges.edge(4,
+                "Words are as long as a to z go on; between all there may be blanks (32), also ahead and "
+                        + "behind.");
         Edges.rightGorge("lake1 2 3 4;gate5;reach1 1 1 1 1");
         Edges.rightGorge("   lake   1   2   3   4   ;   gate   5   ");
         Edges.wrongGorge("lakes 1 2 3 4", 0);
         Edges.wrongGorge("lak 1 2 3 4", 0);
         Edges.wrongGorge("la ke 1 2 3 4", 0);
         Edges.wrongGorge("gategate 1", 0);
+        Edges.wrongGorge("gatez 1", 0);
+        Edges.wrongGorge("gatea 1", 0);
+        Edges.wrongGorge("gate{ 1", 4);
+        Edges.wrongGorge("gate` 1", 4);
+        Edges.wrongGorge("bate 1", 0);
+        Edges.wrongGorge("gats 1", 0);
+        Edges.wrongGorge("gat 1", 0);
         Edges.wrongGorge("gate {1", 5);
         Edges.wrongGorge("`gate 1", 0);
         Edges.wrongGorge("gate 1 :", 7);
@@ -300,7 +312,9 @@ final class EdgesOfTexts {
     }
 
     private static void gates() {
-        Edges.edge(4, "gate: one more GATE (at most 4, numbered from 0 on)", "or of a GATE, REACH or PLACE for which there is no room, the first word");
+        Edges.edge(4,
+                "gate: one more GATE (at most 4, numbered from 0 on)",
+                "or of a GATE, REACH or PLACE for which there is no room, the first word");
         Edges.due("the 4th", Edges.gorge(Edges.times("gate 1", 4)).count(1), 4);
         Edges.wrongGorge(Edges.times("gate 1", 5), 28);
         GorgeDay x = Edges.gorge(Edges.times("gate 1", 3), "gate 1");
@@ -323,6 +337,15 @@ final class EdgesOfTexts {
         Edges.due("STEP 1", flowsOf("gate 9999 0", 1), 9999);
         Edges.due("STEP 2", flowsOf("gate 9999 0", 2), 0);
         Edges.due("STEP 6", flowsOf("gate 1 2 3 4 5 6", 6), 6);
+        GorgeDay all = Edges.opened("lake 1 999999 0 0", Edges.times("gate 1 2 3 4 5 6", 4));
+        for (int gate = 0; gate < 4; gate++) {
+            Edges.due("STEP 0 of all", all.flow(0, 0, false), 0);
+            for (int step = 1; step <= 6; step++) {
+                all.step(0, gate, 0, 0, step);
+                Edges.due("GATE " + gate + " alone at STEP " + step, all.flow(0, 0, false), step);
+            }
+            all.step(0, gate, 0, 0, 0);
+        }
     }
 
     private static void reaches() {
@@ -367,7 +390,9 @@ final class EdgesOfTexts {
     }
 
     private static void places() {
-        Edges.edge(4, "place: one more PLACE (at most 12, numbered from 0 on) at a REACH that is there by then", "or that tells no REACH");
+        Edges.edge(4,
+                "place: one more PLACE (at most 12, numbered from 0 on) at a REACH that is there by then",
+                "or that tells no REACH");
         GorgeDay x = Edges.gorge("reach 1 0 0 0 0;" + Edges.times("place 0 0 0 0", 11));
         Edges.throwsThat("a 13th in one text", Edges.ARGUMENT, Edges.tape(x, Edges.times("place 0 0 0 0", 2)), GorgeDay::gorge);
         Edges.due("its first word", x.fault(), 14);
@@ -388,6 +413,10 @@ final class EdgesOfTexts {
         GorgeDay z = Edges.gorge(Edges.times("reach 1 0 0 0 0", 8));
         Edges.throwsThat("REACH 8 of 8", Edges.ARGUMENT, Edges.tape(z, "place 8 0 0 0"), GorgeDay::gorge);
         Edges.due("REACH 7 of 8", Edges.tape(z, "place 7 0 0 0").gorge(), 2);
+        Edges.wrongGorge("place 0000000 0 0 0", 6);
+        Edges.wrongGorge("place -1 0 0 0", 6);
+        Edges.wrongGorge("place 999999 0 0 0", 6);
+        Edges.rightGorge("place 000000 0 0 0");
 
         Edges.edge(4, "DRY (0 to 999), OFF (0 to 12), HARM (0 to 999).");
         Edges.numberOfGorge("place 0 ", " 0 0", 0, 999);
@@ -493,6 +522,8 @@ final class EdgesOfTexts {
         Edges.wrongRule("shut 0 shut 1", 7);
         Edges.wrongRule("close 0", 0);
         Edges.wrongRule("gate 1", 0);
+        Edges.wrongRule("0", 0);
+        Edges.wrongRule("shut 0;1;shut 0", 7);
         Edges.wrongRule("shut 0 1", 7);
         Edges.wrongRule("open 0 1 2", 9);
         Edges.wrongRule("open 0", 6);
@@ -559,7 +590,9 @@ final class EdgesOfTexts {
     }
 
     private static void grammarOfRule() {
-        Edges.edge(5, "C: ALL { or ALL }; ALL: ATOM { and ATOM }; ATOM: not ATOM | ( C ) | wet PLACE | SUM < SUM | SUM > SUM.");
+        Edges.edge(5,
+                "C: ALL { or ALL }; ALL: ATOM { and ATOM }; ATOM: not ATOM | ( C ) | wet PLACE | SUM < SUM | "
+                        + "SUM > SUM.");
         Edges.wrongRule("shut 0 if or", 10);
         Edges.wrongRule("shut 0 if and", 10);
         Edges.wrongRule("shut 0 if wet 0 or", 18);
@@ -598,6 +631,34 @@ final class EdgesOfTexts {
         Edges.wrongRule("shut 0 if (1+2)+3<9", 14);
         Edges.due("as many as a text bears", stepBy("open 0 1 if " + "1+".repeat(190) + "1>190"), 1);
         Edges.due("and no more of them", stepBy("open 0 1 if " + "1+".repeat(190) + "1>191"), 0);
+    }
+
+    private static void likewiseOfRules() {
+        Edges.edge(5, "Of a wrong text nothing stays. (Likewise of RULES below.)");
+        Edges.wrongRule("open 0 1;open 1 1;x", 18);
+        GorgeDay x = Edges.gorge("gate 1");
+        Edges.throwsThat("a wrong one", Edges.ARGUMENT, Edges.tape(x, "open 0 1;open 0 2 if 1<2;open 0 7"), GorgeDay::rule);
+        Edges.due("nothing of it is in the next one", x.stepAt(followed(x, ""), 0, 95), 0);
+        Edges.due("rules", x.count(7), 1);
+        Edges.wrongRule("shut 0 if (1<2", 14);
+        Edges.wrongRule("shut 0 if (1<2   ", 17);
+        Edges.wrongRule("shut" + " ".repeat(396), 400);
+        Edges.wrongRule("shut\t0", 4);
+        Edges.wrongRule("shut 0 \0", 7);
+        Edges.wrongRule("shut 0 if 1<2\377", 13);
+        Edges.wrongRule("shuts 0", 0);
+        Edges.wrongRule("opens 0 1", 0);
+        Edges.wrongRule("shut 0 ifs 1<2", 7);
+        Edges.wrongRule("shut 0 i f 1<2", 7);
+        Edges.wrongRule("shut 0 if notwet 0", 10);
+        Edges.wrongRule("shut 0 if wets 0", 10);
+        Edges.wrongRule("shut 0 if depths 0<1", 10);
+        Edges.wrongRule("shut 0 if wet 0 ors wet 0", 16);
+        Edges.wrongRule("shut 0 if wet 0 andwet 0", 16);
+        Edges.wrongRule("Shut 0", 0);
+        Edges.rightRule("open0 1if1<2or(2<3and 1<2)and not(wet0);shut1if wet11");
+        Edges.rightRule("  open  0  1  if  (  1  <  2  )  and  not  wet  0  or  level  +  1  >  2  ;  shut  1  ");
+        Edges.rightRule(" ".repeat(400));
     }
 
     private static void faults() {

@@ -120,7 +120,9 @@ final class EdgesOfWater {
     }
 
     private static void downwards() {
-        Edges.edge(13, "REACH 0 has what was LET GO more, each other one what is OUT of the one above it; each its OUT less and BROOK times RAIN more.");
+        Edges.edge(13,
+                "REACH 0 has what was LET GO more, each other one what is OUT of the one above it; each its "
+                        + "OUT less and BROOK times RAIN more.");
         GorgeDay x = openGate("lake 1 100 0 0;gate 100;reach 1 50 0 999 0;reach 1 10 0 999 2;reach 1 0 0 999 1;rain 0 0 1;rain 2 2 9");
         x.step(0, 0, 1, 95, 0);
         reachDue(x, 0, 100, 50, 25, 13, 7);
@@ -254,7 +256,9 @@ final class EdgesOfWater {
     }
 
     private static void latestOnes() {
-        Edges.edge(21, "LATEST of a PLACE: the first QUARTER in which it is WET, less OFF (also below 0); none.", "LATEST; 99 without.");
+        Edges.edge(21,
+                "LATEST of a PLACE: the first QUARTER in which it is WET, less OFF (also below 0); none.",
+                "LATEST; 99 without.");
         Edges.due("QUARTER 0", wetIn(0).latest(0, 0), -12);
         Edges.due("QUARTER 11", wetIn(11).latest(0, 0), -1);
         Edges.due("QUARTER 12", wetIn(12).latest(0, 0), 0);
