@@ -983,19 +983,14 @@ public final class GorgeDay {
             } else if (text.takeWord("wet")) {
                 put(Rule.WET, text.takeNumber(0, PLACES - 1));
             } else {
-                tellComparison(text);
+                tellSum(text);
+                int kind = text.isSign('<') ? Rule.LESS : Rule.MORE;
+                if (!text.takeSign('<') && !text.takeSign('>')) {
+                    text.fail();
+                }
+                tellSum(text);
+                put(kind, 0);
             }
-        }
-
-        private void tellComparison(Text text) {
-            tellSum(text);
-            boolean less = text.takeSign('<');
-            if (!less && !text.takeSign('>')) {
-                text.fail();
-                return;
-            }
-            tellSum(text);
-            put(less ? Rule.LESS : Rule.MORE, 0);
         }
 
         private void tellSum(Text text) {

@@ -63,10 +63,13 @@ public final class GorgeDayAgainstModel {
     }
 
     private void go() {
-        if (random.nextBoolean()) {
+        int scene = random.nextInt(5);
+        if (scene < 2) {
             beginLively();
-        } else {
+        } else if (scene < 4) {
             beginAnyhow();
+        } else {
+            beginFullOpen();
         }
         for (int i = 0; i < CALLS && !wrong; i++) {
             int kind = random.nextInt(30);
@@ -126,6 +129,40 @@ public final class GorgeDayAgainstModel {
             say("closing", upTo(1), upTo(1), 12 + upTo(80));
             say("bounds", pick(100, 600, 1000), pick(1, 2, 3, 4, 5, 6, 8, 999), pick(100, 300, 99999));
             say("person", upTo(7), upTo(20), 40 + upTo(50), upTo(100), upTo(10), pick(2, 5, 9, 99));
+        }
+    }
+
+    /** A great lake whose gates stand wide open: how fast they may be closed depends on each step, and power is dear. */
+    private void beginFullOpen() {
+        StringBuilder text = new StringBuilder("lake ").append(pick(50, 100)).append(" 999999 9999 95");
+        for (int g = 0; g < 2; g++) {
+            text.append(";gate");
+            int flow = 0;
+            int steps = 2 + upTo(4);
+            for (int i = 0; i < steps; i++) {
+                flow += 20 + upTo(100);
+                text.append(' ').append(flow);
+            }
+        }
+        int many = 1 + upTo(2);
+        for (int i = 0; i < many; i++) {
+            text.append(";reach ").append(3 + upTo(7)).append(' ').append(20 + upTo(20)).append(' ').append(40 + upTo(60));
+            text.append(' ').append(upTo(30)).append(" 0");
+        }
+        tellText(true, text.toString());
+        StringBuilder prices = new StringBuilder("price 0 95 ").append(upTo(20));
+        for (int i = 0; i < 8; i++) {
+            prices.append(";price ").append(span()).append(upTo(20));
+        }
+        tellText(true, prices.toString());
+        say("turbine", 30 + upTo(400));
+        ask("open");
+        say("slow", 0, 0, 0, 6, 1);
+        say("slow", 0, 1, upTo(10), upTo(6), 1 + upTo(3));
+        for (int i = 0; i < 20 && !wrong; i++) {
+            say("bounds", 0, pick(upTo(10), upTo(20), upTo(40)), 99999);
+            say("closing", 0, upTo(1), 12 + upTo(60));
+            say("hours", upTo(1), upTo(6), upTo(60), upTo(20), 1 + upTo(5), random.nextBoolean());
         }
     }
 

@@ -8,8 +8,10 @@ import java.nio.file.Files;
 import java.nio.file.Path;
 import java.util.ArrayList;
 import java.util.Arrays;
+import java.util.HashMap;
 import java.util.HashSet;
 import java.util.List;
+import java.util.Map;
 import java.util.Set;
 import java.util.regex.Matcher;
 import java.util.regex.Pattern;
@@ -61,6 +63,7 @@ public final class GorgeDayFace {
         face();
         nested();
         source();
+        depth();
         room();
         System.out.println(wrong == 0 ? "the face is as the document says" : wrong + " things are not as due");
         if (wrong != 0) {
@@ -123,13 +126,58 @@ public final class GorgeDayFace {
         }
     }
 
-    private static void source() throws IOException {
+    private static String sourceText() throws IOException {
         String path = System.getenv("GORGE_SOURCE");
-        if (path == null) {
-            path = "src/main/java/GorgeDay.java";
+        return Files.readString(Path.of(path == null ? "src/main/java/GorgeDay.java" : path));
+    }
+
+    private static String bareSource() throws IOException {
+        return sourceText().replaceAll("(?s)/\\*.*?\\*/", "").replaceAll("//[^\n]*", "");
+    }
+
+    /** Calls go at most eight deep, those of the library counted; methods of one name are taken for one. */
+    private static void depth() throws IOException {
+        Map<String, Set<String>> calls = new HashMap<>();
+        Pattern head = Pattern.compile(" {4}(?: {4})?(?!if|for|while|switch|\\})[\\w \\[\\]]*?(\\w+)\\([^()]*\\)(?: throws [\\w, ]+)? \\{");
+        Pattern called = Pattern.compile("(?<!new )\\b(\\w+)\\(");
+        Set<String> inside = new HashSet<>();
+        for (String line : bareSource().replaceAll("\\n +throws ", " throws ").split("\n")) {
+            Matcher begins = head.matcher(line);
+            if (begins.matches()) {
+                inside = calls.computeIfAbsent(begins.group(1), name -> new HashSet<>());
+            } else {
+                Matcher m = called.matcher(line);
+                while (m.find()) {
+                    inside.add(m.group(1));
+                }
+            }
         }
-        String text = Files.readString(Path.of(path));
-        String code = text.replaceAll("(?s)/\\*.*?\\*/", "").replaceAll("//[^\n]*", "");
+        check(calls.size() > 120, "methods read from the source: " + calls.size());
+        for (Method m : GorgeDay.class.getDeclaredMethods()) {
+            check(calls.containsKey(m.getName()), "not read from the source: " + m.getName());
+            List<String> way = deepest(m.getName(), calls, new ArrayList<>());
+            check(way.size() <= 8, "calls go " + way.size() + " deep: " + way);
+        }
+    }
+
+    /** The longest way of calls that comes to no method twice. */
+    private static List<String> deepest(String name, Map<String, Set<String>> calls, List<String> way) {
+        if (way.contains(name)) {
+            return way;
+        }
+        List<String> here = new ArrayList<>(way);
+        here.add(name);
+        List<String> longest = here;
+        for (String next : calls.getOrDefault(name, Set.of())) {
+            List<String> further = deepest(next, calls, here);
+            longest = further.size() > longest.size() ? further : longest;
+        }
+        return longest;
+    }
+
+    private static void source() throws IOException {
+        String text = sourceText();
+        String code = bareSource();
         for (String banned : new String[] {"->", "::", "catch", "finally", "synchronized", "assert ", "instanceof", "HashMap",
             "String.format", "System.out", "Random", "nanoTime", "currentTime", "hashCode", "Exact(", "package "}) {
             check(!code.contains(banned), "the source has " + banned);
